@@ -1,0 +1,114 @@
+import java.io.IOException;
+import java.lang.reflect.Constructor;
+import java.lang.reflect.Field;
+import java.lang.reflect.Method;
+import java.lang.reflect.Modifier;
+import java.nio.file.Files;
+import java.nio.file.Path;
+import java.util.Set;
+import java.util.TreeSet;
+import java.util.regex.Matcher;
+import java.util.regex.Pattern;
+
+/** The class has the document's public face and no more, and the source none of the words that LANGUAGE.md rules out. */
+public final class FaceTest {
+    private static final Set<String> FACE = Set.of(
+        "int NONE = -1", "int FULL = -2", "int PLAIN = 0", "int CHOICE = 1", "int BAN = 2",
+        "StableModels()",
+        "int add(int,int,int,int)", "boolean remove(int)", "int rules()", "int support(int)",
+        "boolean stable(int)", "int models()", "int model(int)", "int brave()", "int cautious()",
+        "int find(int,int)", "int fewest()", "int maximal()", "boolean matters(int)");
+
+    private static final String RULED_OUT =
+        "\\b(package|import|throws?|try|catch|finally|synchronized|assert|instanceof|null|float|double"
+        + "|String|Object|Math|Integer|Long|System|Arrays|interface|enum|record|protected"
+        + "|toString|equals|hashCode|getClass)\\b|->|::|\"|\\[\\s*\\]\\s*\\[";
+
+    private static int wrong = 0;
+
+    private static void fault(String what) {
+        wrong++;
+        System.out.println(what);
+    }
+
+    private static String parameters(Class<?>[] types) {
+        StringBuilder text = new StringBuilder("(");
+        for (int i = 0; i < types.length; i++) {
+            text.append(i == 0 ? "" : ",").append(types[i].getSimpleName());
+        }
+        return text.append(")").toString();
+    }
+
+    private static void fields(Set<String> face) throws IllegalAccessException {
+        for (Field field : StableModels.class.getDeclaredFields()) {
+            int modifiers = field.getModifiers();
+            if (Modifier.isPublic(modifiers) && Modifier.isStatic(modifiers) && Modifier.isFinal(modifiers)) {
+                face.add(field.getType().getSimpleName() + " " + field.getName() + " = " + field.get(null));
+            } else if (!Modifier.isPrivate(modifiers)) {
+                fault("field that is neither a constant nor private: " + field);
+            }
+            if (Modifier.isStatic(modifiers) && (!Modifier.isFinal(modifiers) || field.getType().isArray())) {
+                fault("static field that is no constant: " + field);
+            }
+        }
+    }
+
+    private static void methods(Set<String> face) {
+        Set<String> open = new TreeSet<>();
+        Set<String> hidden = new TreeSet<>();
+        for (Method method : StableModels.class.getDeclaredMethods()) {
+            int modifiers = method.getModifiers();
+            if (Modifier.isPublic(modifiers)) {
+                open.add(method.getName());
+                String kind = Modifier.isStatic(modifiers) ? "static " : "";
+                face.add(kind + method.getReturnType().getSimpleName() + " " + method.getName()
+                    + parameters(method.getParameterTypes()));
+            } else if (Modifier.isPrivate(modifiers)) {
+                hidden.add(method.getName());
+            } else {
+                fault("method that is neither public nor private: " + method);
+            }
+        }
+        hidden.retainAll(open);
+        for (String name : hidden) {
+            fault("private method with the name of a public one: " + name);
+        }
+    }
+
+    private static void face() throws IllegalAccessException {
+        Set<String> face = new TreeSet<>();
+        fields(face);
+        methods(face);
+        for (Constructor<?> made : StableModels.class.getDeclaredConstructors()) {
+            face.add((Modifier.isPublic(made.getModifiers()) ? "" : "hidden ")
+                + made.getName() + parameters(made.getParameterTypes()));
+        }
+        if (!face.equals(FACE)) {
+            fault("the face is " + face + ", due is " + new TreeSet<>(FACE));
+        }
+        if (!Modifier.isPublic(StableModels.class.getModifiers()) || !Modifier.isFinal(StableModels.class.getModifiers())) {
+            fault("the class is not public and final");
+        }
+        if (StableModels.class.getDeclaredClasses().length != 0 || StableModels.class.getInterfaces().length != 0) {
+            fault("the class has nested classes or interfaces");
+        }
+    }
+
+    private static void source() throws IOException {
+        String text = Files.readString(Path.of("src/main/java/StableModels.java"));
+        String code = text.replaceAll("(?s)/\\*.*?\\*/", " ").replaceAll("//[^\n]*", " ");
+        Matcher word = Pattern.compile(RULED_OUT).matcher(code);
+        while (word.find()) {
+            fault("the source has '" + word.group() + "', which LANGUAGE.md rules out");
+        }
+    }
+
+    public static void main(String[] args) throws IllegalAccessException, IOException {
+        face();
+        source();
+        System.out.println(wrong == 0 ? "the face and the source are as due" : wrong + " faults");
+        if (wrong != 0) {
+            System.exit(1);
+        }
+    }
+}
