@@ -191,10 +191,10 @@ public final class StableModels {
 
     // Whether rule r is one of those that the support of m is made from.
     private boolean takesPart(int program, int r, int m) {
-        if (!isIn(program, r) || (negatives[r] & m) != 0) {
+        if ((program & 1 << r) == 0 || (negatives[r] & m) != 0) {
             return false;
         }
-        return kinds[r] == PLAIN || kinds[r] == CHOICE && isIn(m, heads[r]);
+        return kinds[r] == PLAIN || kinds[r] == CHOICE && (m & 1 << heads[r]) != 0;
     }
 
     // A pass that adds nothing has reached the least set, and every other pass

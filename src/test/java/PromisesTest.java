@@ -186,6 +186,8 @@ public final class PromisesTest {
         due("5 POS whole", y.support(4), 7);
         due("5 NEG of a plain rule in m", y.support(12), 6);
         due("5 POS is read in the support, not in m", y.support(2), 2);
+        y.add(StableModels.BAN, 4, 0, 0);
+        due("5 the head of a BAN in m", y.support(20), 7);
         StableModels loop = new StableModels();
         loop.add(StableModels.PLAIN, 0, 1, 0);
         loop.add(StableModels.CHOICE, 1, 2, 0);
