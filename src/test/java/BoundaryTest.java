@@ -272,6 +272,24 @@ public final class BoundaryTest {
         }
     }
 
+    private static void choiceBodies() {
+        sentence("Terms: the head of a CHOICE is in S when its POS is within S");
+        for (int head = 0; head < 6; head++) {
+            for (int pos = 0; pos < 64; pos++) {
+                for (int neg = 0; neg < 64; neg++) {
+                    StableModels x = choices(6);
+                    x.remove(head);
+                    x.add(CHOICE, head, pos, neg);
+                    for (int m = 0; m < 64; m++) {
+                        int others = m & ~(1 << head);
+                        int want = (neg & m) == 0 && (pos & others) == pos ? m : others;
+                        due("support(" + m + ") of CHOICE " + head + " " + pos + " " + neg, x.support(m), want);
+                    }
+                }
+            }
+        }
+    }
+
     private static void leastSet() {
         sentence("Terms: the support is the least set S");
         for (int a = 0; a < 6; a++) {
@@ -751,6 +769,7 @@ public final class BoundaryTest {
         bodies();
         plainRules();
         choiceRules();
+        choiceBodies();
         leastSet();
         longestChain();
         equalsItsSupport();

